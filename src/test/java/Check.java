@@ -1,0 +1,80 @@
+import java.nio.charset.StandardCharsets;
+import java.util.NoSuchElementException;
+
+/** What the tests share: feeding a text, comparing answers, counting what is wrong. */
+final class Check {
+    /** What led() is written as when it throws. */
+    static final long THROWS = Long.MIN_VALUE;
+
+    private static int wrong = 0;
+    private static int asked = 0;
+
+    private Check() {
+    }
+
+    static void due(String what, long got, long want) {
+        asked++;
+        if (got != want) {
+            wrong++;
+            if (wrong <= 40) {
+                System.out.println(what + " answered " + got + ", due is " + want);
+            }
+        }
+    }
+
+    static void due(String what, boolean got, boolean want) {
+        due(what, got ? 1 : 0, want ? 1 : 0);
+    }
+
+    static boolean isFine() {
+        return wrong == 0;
+    }
+
+    static void end(String name) {
+        System.out.println(name + ": " + asked + " answers, " + wrong + " not as due");
+        if (wrong != 0) {
+            System.exit(1);
+        }
+    }
+
+    static byte[] bytes(String text) {
+        return text.getBytes(StandardCharsets.ISO_8859_1);
+    }
+
+    /** Feeds a text, filled up by blanks to a number of twenties; how many bytes the last feed told. */
+    static int feed(RenamedCells x, String text) {
+        byte[] b = bytes(text);
+        int told = 0;
+        for (int at = 0; at < b.length; at += 20) {
+            int[] five = new int[5];
+            for (int k = 0; k < 20; k++) {
+                int one = at + k < b.length ? b[at + k] & 255 : 32;
+                five[k / 4] = five[k / 4] << 8 | one;
+            }
+            told = x.feed(five[0], five[1], five[2], five[3], five[4]);
+        }
+        return told;
+    }
+
+    static int tell(RenamedCells x, String text) {
+        feed(x, text);
+        return x.core(bytes(text).length);
+    }
+
+    static RenamedCells of(String text) {
+        RenamedCells x = new RenamedCells();
+        int steps = tell(x, text);
+        if (steps < 1) {
+            due("core of " + text + " (fault " + x.fault() + " at " + x.where() + ")", steps, 1);
+        }
+        return x;
+    }
+
+    static long led(RenamedCells x, int i) {
+        try {
+            return x.led(i);
+        } catch (NoSuchElementException e) {
+            return THROWS;
+        }
+    }
+}
