@@ -77,4 +77,37 @@ final class Check {
             return THROWS;
         }
     }
+
+    /**
+     * Calls in a row, parted by blanks, each written call(numbers)=answer, or call=answer without
+     * numbers; true is 1, false 0, and led's exception is written throws. A call!n is refused by n.
+     */
+    static void script(String name, RenamedCells x, String calls) {
+        for (String row : calls.trim().split("\\s+")) {
+            boolean refused = row.indexOf('!') >= 0;
+            String[] sides = row.split(refused ? "!" : "=");
+            String call = sides[0].replaceAll("\\(.*", "");
+            int[] a = numbers(sides[0]);
+            long got = Twin.real(x, call, a);
+            if (refused) {
+                boolean isBoolean = call.equals("resume") || call.equals("undo") || call.equals("back");
+                due(name + ": " + row, got, isBoolean ? 0 : -1);
+                due(name + ": " + row + ", trouble()", x.trouble(), Long.parseLong(sides[1]));
+            } else {
+                due(name + ": " + row, got, sides[1].equals("throws") ? THROWS : Long.parseLong(sides[1]));
+            }
+        }
+    }
+
+    private static int[] numbers(String call) {
+        int[] a = new int[5];
+        int open = call.indexOf('(');
+        if (open >= 0) {
+            String[] parts = call.substring(open + 1, call.length() - 1).split(",");
+            for (int k = 0; k < parts.length; k++) {
+                a[k] = Integer.parseInt(parts[k]);
+            }
+        }
+        return a;
+    }
 }
