@@ -1201,7 +1201,7 @@ public final class RenamedCells {
         }
 
         boolean isReady(int c) {
-            return (readyBits & bitOf(c)) != 0;
+            return c >= 0 && (readyBits >> c & 1) == 1;
         }
 
         private boolean isDone(int i) {

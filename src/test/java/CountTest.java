@@ -55,7 +55,9 @@ public final class CountTest {
                 + " cellsFor(9)=9 cellsFor(6)=11 cellsFor(5)=-2 rate(10,0)=6 rate(10,1)=7 rate(9,0)=2 rate(9,1)=3 rate(11,0)=1 rate(11,1)=1");
         Check.script("whatever was done", x, "fetch=0 run(0)=0 commit=0 cycles(10)=7 commits(10)=6 entries=0 size(8)=1");
         Check.due("told anew", Check.tell(x, LATE + ";set 1 5"), 1);
-        Check.script("told anew", x, "cycles(10)=3 commits(10)=1 misses(10)=0 cycles(9)=3 cellsFor(3)=9");
+        Check.script("told anew", x, "cycles(10)=3 commits(10)=1 misses(10)=0 crowd(10)=9 cycles(9)=3 cellsFor(3)=9");
+        Check.due("refused", Check.tell(x, LATE + ";set 1"), -1);
+        Check.script("refused", x, "cycles(10)=3 commits(10)=1 crowd(10)=9");
     }
 
     private static void longest() {

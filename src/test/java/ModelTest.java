@@ -113,6 +113,7 @@ public final class ModelTest {
     }
 
     private static void tell(String run, RenamedCells x, Twin y, String text) {
+        compare(run, x, y, "core", new int[5]);
         byte[] b = Check.bytes(text);
         for (int at = 0; at < b.length; at += 20) {
             int[] five = new int[5];
@@ -137,6 +138,10 @@ public final class ModelTest {
             boolean act = d.nextInt(3) > 0;
             String call = act ? ACTS[d.nextInt(ACTS.length)] : Twin.CALLS[d.nextInt(Twin.CALLS.length)];
             if (call.equals("core") && d.nextInt(4) > 0) {
+                continue;
+            }
+            if (d.nextInt(150) == 0) {
+                tell(run, x, y, d.nextInt(3) == 0 ? drawSpoiltText(d) : drawText(d));
                 continue;
             }
             if ((call.equals("undo") || call.equals("back")) && d.nextInt(4) > 0) {
@@ -174,8 +179,7 @@ public final class ModelTest {
         ";got 3 7", ";core", ";;", "\t", "-1"
     };
 
-    private static void spoiltText(int seed) {
-        Random d = new Random(seed);
+    private static String drawSpoiltText(Random d) {
         StringBuilder s = new StringBuilder(drawText(d));
         int times = d.nextInt(3);
         for (int k = 0; k <= times; k++) {
@@ -189,10 +193,15 @@ public final class ModelTest {
                     s.insert(at, PIECES[d.nextInt(PIECES.length)]);
             }
         }
+        return s.toString();
+    }
+
+    private static void spoiltText(int seed) {
         RenamedCells x = new RenamedCells();
         Twin y = new Twin();
-        String run = "text " + seed + " (" + s + "):";
-        tell(run, x, y, s.toString());
+        String text = drawSpoiltText(new Random(seed));
+        String run = "text " + seed + " (" + text + "):";
+        tell(run, x, y, text);
         for (String call : new String[] {"fault", "plainSteps", "fits"}) {
             compare(run, x, y, call, new int[5]);
         }

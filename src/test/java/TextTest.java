@@ -48,12 +48,26 @@ public final class TextTest {
         Check.script("tape", x, "core(-1)!2 feed(0,0,0,0,0)=-1 trouble=2 size(13)=900 core(901)!2 size(13)=900");
         Check.script("tape", x, "core(900)!4 fault=1 where=900 size(13)=0 trouble=4 feed(0,0,0,0,0)=20 trouble=4");
         Check.script("tape", x, "core(20)!4 fault=1 where=0");
+        fullOfTokens();
         RenamedCells y = new RenamedCells();
         int high = 'c' << 24 | 'o' << 16 | 'r' << 8 | 0xE9;
         y.feed(high, -1, -1, -1, -1);
         Check.script("bytes above 127", y, "core(3)!4 fault=1 where=0 size(13)=0");
         y.feed(0x20202020, -1, -1, -1, -1);
         Check.script("bytes above 127", y, "core(5)!4 fault=1 where=4");
+    }
+
+    private static void fullOfTokens() {
+        RenamedCells x = new RenamedCells();
+        int head = Check.feed(x, HEAD + ";set 1 5;got ");
+        for (int k = head; k < 900; k += 20) {
+            x.feed(0x31613161, 0x31613161, 0x31613161, 0x31613161, 0x31613161);
+        }
+        Check.script("tokens of one byte each", x, "size(13)=900 core(900)!4 fault=1 where=61");
+        for (int k = 0; k < 45; k++) {
+            x.feed(0x3b3b3b3b, 0x3b3b3b3b, 0x3b3b3b3b, 0x3b3b3b3b, 0x3b3b3b3b);
+        }
+        Check.script("900 tokens", x, "size(13)=900 core(900)!4 fault=1 where=0 size(13)=0");
     }
 
     private static void telling() {
@@ -69,6 +83,14 @@ public final class TextTest {
         Check.feed(x, text);
         Check.script("the tape stays", x, "core(-1)!2 size(13)=60 core(61)!2 size(13)=60 fetch=1");
         Check.due("told again", x.core(shorter), 2);
+        for (int k = 0; k < 3; k++) {
+            Check.due("with all sorts of lines", Check.tell(x, text + ";unsure 0 1;unsure 1 1;got 1 1;got 2 6"), 2);
+            Check.script("no more than told now", x, "size(5)=2 size(6)=2 size(7)=2 fits=1 fitAt(0)=1");
+        }
+        for (int k = 0; k < 3; k++) {
+            Check.due("with none", Check.tell(x, text), 2);
+            Check.script("no more than told now", x, "size(5)=2 size(6)=0 size(7)=0 fits=1 fitAt(0)=0 ask=-2");
+        }
         Check.script("all anew", x, "size(8)=0 size(11)=0 size(12)=0 undo!6 back(0)!1 entries=0 value(1)=0 nextStep=0");
     }
 
