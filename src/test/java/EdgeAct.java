@@ -104,6 +104,8 @@ final class EdgeAct {
         Edge.of(47, "UNDO: true;").core("core cells 9 window 4 saves 1 share 1 early;set 1 5;skip 0 0 0 no;set 1 6;div 2 0 0")
                 .calls("fetch=0 fetch=1 fetch=2 entry(2,1)=1 ready=253 letGo=2 undo=1 trouble=0 ready=255 letGo=2 free=2 entries=2 nextStep=2 fetch=2 run(2)=0 cell(1,0)=6 undo=1 cell(1,0)=-2 entry(2,4)=0 run(1)=1 entries=2 size(9)=0 undo=1 entries=3 size(9)=1 nextStep=3 saved(1,1)=8")
                 .calls("run(0)=0 commit=0 kept(1)=8 size(8)=1 undo=1 kept(1)=1 size(8)=0 letGo=2 entries=3 size(11)=4");
+        Edge.of(47, "UNDO: true;").core(LATE + ";set 1 5;move 2 1;add 3 1 0;sub 4 0 1").calls("fetch=0 fetch=1 fetch=2 fetch=3 run(0)=0 commit=0 commit=1 entry(0,2)=8 entry(0,3)=0 entry(1,2)=0 entry(1,3)=8 entry(0,6)=0 undo=1")
+                .calls("entry(0,6)=1 entry(0,2)=8 entry(0,3)=-2 entry(1,6)=0 entry(1,2)=8 entry(1,3)=0 entry(2,2)=0 entry(2,3)=8 undo=1 entry(0,6)=0 entry(0,2)=-2 entry(0,3)=-2 entry(1,6)=1 entry(1,2)=8 entry(2,2)=8 entry(2,3)=0 entry(3,2)=0 entry(3,3)=8");
         Edge.of(47, "UNDO: true;").core(LATE + ";div 1 0 0").calls("fetch=0 run(0)=0 commit=-2 resume(24)=1 undo=1 size(10)=1 nextStep=0 agrees=1 undo=1 size(10)=0 entries=1 nextStep=1 undo=1 entry(0,5)=0 entry(0,4)=0 undo=1 entries=0");
         Edge.of(47, "UNDO: true;").core(LATE + ";set 1 5").calls("fetch=0 feed(0,0,0,0,0)=20 image=0 undo=1 size(13)=20 size(12)=1 back(0)=1 entries=1");
         Edge.of(47, "false: 6.").refused("undo!6").core(LATE + ";set 1 5").refused("undo!6").calls("fetch=0 undo=1").refused("undo!6").calls("fetch=0 image=0 back(0)=1").refused("undo!6");

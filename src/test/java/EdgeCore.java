@@ -32,6 +32,9 @@ final class EdgeCore {
         Edge.of("III", sentence).core(LATE + ";set 1 5;set 2 6").calls("fetch=0 fetch=1 entry(0,0)=0 entry(1,0)=1");
         Edge.of("III", "KEPT: for each register a CELL; at first that of its number (READY, 0).").core("core cells 24 window 2 saves 0 share 1 late;set 1 5")
                 .calls("kept(0)=0 kept(1)=1 kept(2)=2 kept(3)=3 kept(4)=4 kept(5)=5 kept(6)=6 kept(7)=7 ready=255 cell(0,0)=0 cell(7,0)=0 cell(8,0)=-2 cell(23,0)=-2 value(0)=0 value(7)=0");
+        String moved = "core cells 9 window 2 saves 0 share 1 late;set 0 5;set 1 6;set 2 7";
+        Edge.of("III", "KEPT: for each register a CELL; at first that of its number (READY, 0).").core(moved).calls("fetch=0 run(0)=0 commit=0 fetch=1 run(0)=0 commit=1 fetch=2 run(0)=0 commit=2 kept(0)=8 kept(1)=0 kept(2)=1 cell(0,0)=6 cell(1,0)=7 cell(2,0)=0")
+                .told(moved, 3).calls("kept(0)=0 kept(1)=1 kept(2)=2 kept(7)=7 cell(0,0)=0 cell(1,0)=0 value(0)=0 value(1)=0 value(2)=0 ready=255 cell(8,0)=-2");
         Edge.of("III", "The MAP: for each register the NEW CELL of the youngest ENTRY that has one for it, else the KEPT one.").core(LATE + ";set 1 5;set 1 6;set 2 7;skip 0 0 0 no")
                 .calls("mapped(1)=1 fetch=0 mapped(1)=8 fetch=1 mapped(1)=9 mapped(2)=2 fetch=2 mapped(2)=10 mapped(1)=9 fetch=3 mapped(1)=9 run(0)=0 commit=0 mapped(1)=9 kept(1)=8 run(0)=0 commit=1 mapped(1)=9 kept(1)=9");
     }
@@ -145,6 +148,8 @@ final class EdgeCore {
     private static void running() {
         String sentence = "RUN of an ENTRY that isn't DONE, whose CELLS, read, are READY: it is DONE; its NEW CELL has the value, and is READY;";
         Edge.of("III", sentence).core(LATE + ";set 1 9999;set 2 0;add 3 1 2;sub 4 2 1").calls("fetch=0 fetch=1 fetch=2 fetch=3 run(2)!5 run(3)!5 run(0)=0 run(2)!5 run(3)!5 entry(0,4)=1 cell(8,0)=9999 run(0)!5 run(1)=0 cell(9,0)=0 run(3)=0 cell(11,0)=1 ready=3071 run(2)=0 cell(10,0)=9999 ready=4095");
+        // CELL 0 is as any other: read before it is READY, and with a value
+        Edge.of("III", sentence).core("core cells 10 window 6 saves 0 share 1 late;set 0 5;set 1 6;add 2 1 1").calls("fetch=0 run(0)=0 commit=0 fetch=1 entry(0,1)=0 ready=510 fetch=2 entry(1,2)=0 runnable=1 run(1)!5 run(0)=0 cell(0,0)=6 run(1)=0 cell(9,0)=12");
         Edge.of("III", sentence).core("core cells 12 window 6 saves 0 share 2 late;set 1 5;move 2 1").calls("fetch=0 fetch=1 run(1)!5 run(0)=0 run(1)!5 cell(8,0)=5");
         Edge trap = Edge.of("III", "a div by 0 (DONE, too) has TRAPPED instead.").core(LATE + ";div 1 0 0;add 2 1 1");
         trap.calls("fetch=0 fetch=1 entry(0,5)=0 run(0)=0 entry(0,4)=1 entry(0,5)=1 cell(8,0)=-2 ready=255 run(0)!5 run(1)!5 entries=2 nextStep=2");
@@ -159,6 +164,9 @@ final class EdgeCore {
         // the same STEP either way: as guessed, whatever the registers are
         Edge.of("III", sentence).core(LATE + ";skip 0 0 1 no;set 1 1;skip 0 1 3 yes;set 2 2").calls("fetch=0 fetch=1 fetch=2 fetch=3 run(0)=0 entries=4 run(1)=0 run(2)=0 entries=4 nextStep=4");
         Edge.of("III", sentence).core(LATE + ";skip 0 0 2 yes;set 1 1;set 2 2").calls("fetch=0 fetch=2 run(0)=0 entries=2 nextStep=3");
+        // nothing of those taken out is left on who comes in their place
+        Edge.of("III", sentence).core("core cells 12 window 6 saves 2 share 2 late;skip 0 0 4 no;move 1 2;skip 0 0 9 no;div 5 0 0;set 3 3;set 4 4;set 5 5").calls("fetch=0 fetch=1 fetch=2 fetch=3 run(3)=0 entry(1,6)=1 entry(2,7)=1 entry(3,5)=1 run(0)=3 fetch=4 fetch=5 fetch=6")
+                .calls("entry(1,4)=0 entry(1,6)=0 entry(1,8)=1 entry(2,7)=0 entry(2,8)=1 entry(3,4)=0 entry(3,5)=0 entry(3,8)=1 runnable=14");
     }
 
     private static void committing() {
@@ -172,6 +180,8 @@ final class EdgeCore {
         String sentence = "If it has TRAPPED, all ENTRIES are taken out, and the CORE STOPS: NEXT is that STEP.";
         Edge.of("III", sentence).core(LATE + ";set 1 5;div 2 1 0;set 3 3;skip 0 0 9 yes").calls("fetch=0 fetch=1 fetch=2 fetch=3 nextStep=9 run(0)=0 run(1)=0 run(2)=0 size(10)=0 commit=0 size(10)=0 commit=-2 entries=0 size(10)=1 nextStep=1 size(9)=0 free=3586 kept(2)=2 kept(3)=3 fetch!5");
         Edge.of("III", sentence).core(LATE + ";div 7 0 0").calls("fetch=0 run(0)=0 commit=-2 nextStep=0 entries=0 size(8)=0 free=3840 value(7)=0");
+        Edge.of("III", sentence).core("core cells 12 window 6 saves 2 share 2 late;div 1 0 0;move 2 3;skip 0 0 9 no;set 4 4;set 5 5;set 6 6").calls("fetch=0 fetch=1 fetch=2 run(0)=0 commit=-2 resume(3)=1 fetch=3 fetch=4 fetch=5")
+                .calls("entry(0,4)=0 entry(0,5)=0 entry(0,8)=1 entry(1,4)=0 entry(1,6)=0 entry(2,7)=0 entry(2,8)=1 runnable=7");
         // a TRAP that a MISS takes out is none
         Edge.of("III", sentence).core(LATE + ";skip 0 0 2 no;div 1 0 0;set 2 2").calls("fetch=0 fetch=1 run(1)=0 entry(1,5)=1 run(0)=1 commit=0 size(10)=0 fetch=2 run(0)=0 commit=2 agrees=1");
     }

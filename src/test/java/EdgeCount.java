@@ -113,12 +113,14 @@ final class EdgeCount {
                 .core(WIDE + ";skip 0 0 0 no").calls("misses(9)=299 commits(9)=298 cycles(9)=300 plainMisses=200").core(WIDE + ";skip 0 0 0 yes").calls("misses(9)=0");
         // a skip on the guessed path that a MISS takes out before it runs isn't one
         Edge.of(30, "How many MISSES there are.").core(WIDE + ";skip 0 0 2 no;skip 0 0 0 no").calls("misses(24)=1 commits(24)=1");
+        Edge.of(30, "How many MISSES there are.").core(WIDE + ";skip 0 0 2 no").calls("misses(9)=1").told(WIDE + ";set 1 5", 1).calls("misses(9)=0").told(WIDE + ";skip 0 0 2 no", 1).calls("misses(9)=1 misses(9)=1");
         cellsOnly(30, "NONE: 1 (no CORE); 2.", "misses", "");
     }
 
     private static void crowd() {
         Edge.of(31, "The most CELLS that aren't FREE behind any CYCLE.").core(WIDE + ";skip 0 0 0 yes").calls("crowd(9)=8 trouble=0").core(WIDE + ";set 1 5").calls("crowd(9)=9 crowd(24)=9").core(EARLY + ";set 1 5").calls("crowd(9)=8")
                 .core("core cells 12 window 8 saves 0 share 3 early;move 1 0;move 2 0").calls("crowd(9)=6 cycles(9)=2").core(WIDE + ";set 1 1;set 2 2;set 3 3;set 4 4;set 5 5").calls("crowd(9)=9 crowd(11)=11 crowd(12)=12 crowd(24)=12");
+        Edge.of(31, "The most CELLS that aren't FREE behind any CYCLE.").core(WIDE + ";set 1 1;set 2 2;set 3 3").calls("crowd(24)=11").told(WIDE + ";skip 0 0 1 yes", 1).calls("crowd(24)=8 crowd(24)=8");
         cellsOnly(31, "NONE: 1 (no CORE); 2.", "crowd", "");
     }
 
@@ -158,6 +160,7 @@ final class EdgeCount {
     private static void surely() {
         Edge.of(37, "Unsure ones in all (0 without a set), as bits.").core(FOUR).calls("surely=0 trouble=0").core(NO_FIT).calls("surely=0 trouble=0").core(NO_UNSURE).calls("surely=0").core(WIDE + ";set 1 2;set 2 3;unsure 0 9;unsure 1 4;got 1 9").calls("surely=1")
                 .core(WIDE + ";set 1 1;set 2 1;set 3 1;set 4 1;unsure 0 2;unsure 1 2;unsure 2 2;unsure 3 2;got 1 2;got 2 2;got 3 2;got 4 2").calls("surely=15 could=15 fits=1 fitAt(0)=15");
+        Edge.of(37, "Unsure ones in all (0 without a set), as bits.").core(WIDE + ";set 1 2;set 2 3;add 3 1 2;unsure 0 3;unsure 1 2;got 3 5").calls("fits=2 fitAt(0)=0 fitAt(1)=3 surely=0 could=3");
         Edge.of(37, "NONE: 1 (no CORE).").refused("surely!1");
     }
 

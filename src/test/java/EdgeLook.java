@@ -87,11 +87,14 @@ final class EdgeLook {
         Edge.of(19, "1 its NEW CELL (-2 none),").core("core cells 12 window 6 saves 0 share 2 late;set 0 5;move 1 0;skip 0 0 0 no").calls("fetch=0 fetch=1 fetch=2 entry(0,1)=8 entry(1,1)=8 entry(2,1)=-2 trouble=0");
         Edge.of(19, "2 the first CELL it reads (-2), 3 the second (-2),").core("core cells 24 window 6 saves 0 share 1 late;set 1 5;move 2 1;add 3 1 2;skip 0 7 4 no;div 4 0 3")
                 .calls("fetch=0 fetch=1 fetch=2 fetch=3 fetch=4 entry(0,2)=-2 entry(0,3)=-2 entry(1,2)=8 entry(1,3)=-2 entry(2,2)=8 entry(2,3)=9 entry(3,2)=0 entry(3,3)=7 entry(4,2)=0 entry(4,3)=10 trouble=0");
+        Edge.of(19, "2 the first CELL it reads (-2), 3 the second (-2),").core("core cells 24 window 6 saves 0 share 1 late;set 1 5;add 3 1 2;div 4 0 3;sub 5 1 4").calls("fetch=0 fetch=1 fetch=2 fetch=3 run(0)=0 commit=0 entry(0,2)=8 entry(0,3)=2 entry(1,2)=0 entry(1,3)=9 entry(2,2)=8 entry(2,3)=10"
+                + " run(0)=0 commit=1 entry(0,2)=0 entry(0,3)=9 entry(1,2)=8 entry(1,3)=10");
         Edge.of(19, "4 1 if it is DONE,").core(LATE + ";set 1 5;move 2 0;skip 0 0 3 yes;div 3 0 0").calls("fetch=0 fetch=1 fetch=2 fetch=3 entry(0,4)=0 entry(1,4)=1 entry(2,4)=0 entry(3,4)=0 run(0)=0 run(2)=0 run(3)=0 entry(0,4)=1 entry(2,4)=1 entry(3,4)=1");
         Edge.of(19, "5 1 if it has TRAPPED,").core(LATE + ";set 1 5;div 2 1 0;div 3 0 1").calls("fetch=0 fetch=1 fetch=2 entry(1,5)=0 run(0)=0 run(1)=0 run(2)=0 entry(0,5)=0 entry(1,5)=1 entry(2,5)=0 commit=0 entry(0,5)=1 entry(1,5)=0");
         Edge.of(19, "6 1 if it is MERGED,").core(LATE + ";set 1 5;move 2 1;move 3 1").calls("fetch=0 fetch=1 fetch=2 entry(0,6)=0 entry(1,6)=1 entry(2,6)=0 run(0)=0 commit=0 entry(0,6)=1 entry(1,6)=0");
         Edge.of(19, "7 1 if it has a SAVE,").core(LATE + ";set 1 5;skip 0 0 2 yes;skip 0 0 3 yes").calls("fetch=0 fetch=1 fetch=2 entry(0,7)=0 entry(1,7)=1 entry(2,7)=0 run(0)=0 commit=0 entry(0,7)=1 run(0)=0 entry(0,7)=0 entry(1,7)=0");
         Edge.of(19, "8 1 if it is SURE.").core(LATE + ";set 1 5;skip 0 0 2 yes;set 2 5").calls("fetch=0 fetch=1 fetch=2 entry(0,8)=1 entry(1,8)=0 entry(2,8)=0 run(1)=0 entry(1,8)=1 entry(2,8)=1");
+        Edge.of(19, "8 1 if it is SURE.").core(LATE + ";set 1 5;set 3 1;skip 0 0 3 yes;set 2 5").calls("fetch=0 fetch=1 fetch=2 fetch=3 run(0)=0 commit=0 entry(0,8)=1 entry(1,8)=0 entry(2,8)=0 run(0)=0 commit=1 entry(0,8)=0 entry(1,8)=0 run(0)=0 entry(0,8)=1 entry(1,8)=1");
         Edge.of(19, "NONE: 1.").refused("entry(0,0)!1").core(LATE + ";set 1 5;set 2 5").refused("entry(0,0)!1").calls("fetch=0").refused("entry(1,0)!1 entry(-1,0)!1 entry(0,9)!1 entry(0,-1)!1 entry(1,9)!1 entry(2147483647,0)!1 entry(-2147483648,0)!1 entry(0,2147483647)!1 entry(0,-2147483648)!1")
                 .core("core cells 9 window 12 saves 0 share 1 late;skip 0 0 0 yes").times(12, "fetch=0").calls("entry(11,8)=0 entry(12,8)!1");
     }
@@ -154,6 +157,7 @@ final class EdgeLook {
     private static void agrees() {
         String sentence = "1 if the PLAIN machine, behind as many STEPS as were COMMITTED since the text was told";
         Edge.of(27, sentence).core(LATE + ";set 1 5;skip 0 0 3 no;set 2 2;div 3 0 0").calls("agrees=1 trouble=0 fetch=0 run(0)=0 agrees=1 commit=0 agrees=1 fetch=1 fetch=2 run(1)=0 run(0)=1 agrees=1 commit=1 agrees=1 fetch=3 run(0)=0 commit=-2 size(8)=2 agrees=1");
+        Edge.of(27, sentence).core(LATE + ";set 1 5;unsure 0 6;got 1 6").calls("fits=1 judge=0 fetch=0 run(0)=0 commit=0 value(1)=5 agrees=1");
         Edge.of(27, "(undone ones not),").core(LATE + ";set 1 5;set 1 6").calls("fetch=0 run(0)=0 commit=0 undo=1 agrees=1 size(8)=0 commit=0 fetch=1 run(0)=0 commit=1 agrees=1 undo=1 agrees=1 size(8)=1 value(1)=5");
         Edge.of(27, "has all registers as KEPT (those LET GO no matter),").core(EARLY + ";set 1 5;set 2 6").calls("fetch=0 fetch=1 letGo=6 agrees=1 run(0)=0 commit=0 letGo=4 agrees=1");
         // 201 COMMITS by 2 calls each: moves that are MERGED, and each 24th STEP a skip

@@ -2,6 +2,9 @@
 final class EdgePlain {
     private static final String HEAD = "core cells 24 window 12 saves 1 share 1 late";
 
+    // As told: STEPS 0, 1 (as guessed), 3 (a MISS), a TRAP at 5; by the other number: 0, 1 (a MISS), 2, 3 (a MISS), 5, 6, the end.
+    private static final String UNSURE = HEAD + ";set 1 0;skip 1 0 3 yes;set 4 4;skip 0 0 5 no;set 4 4;div 2 2 1;set 3 3;unsure 0 5";
+
     private EdgePlain() {
     }
 
@@ -92,6 +95,7 @@ final class EdgePlain {
         Edge.of(6, "How many STEPS the PLAIN machine does.").core(HEAD + ";div 1 0 0").calls("plainSteps=0").core(HEAD + ";set 1 5").calls("plainSteps=1")
                 .core(loop(4, 65, "")).calls("plainSteps=198").core(loop(2, 66, "")).calls("plainSteps=199").core(loop(3, 66, "")).calls("plainSteps=200")
                 .core(loop(4, 66, "")).calls("plainSteps=200").core(HEAD + ";skip 0 0 0 no").calls("plainSteps=200 trouble=0");
+        Edge.of(6, "How many STEPS the PLAIN machine does.").core(UNSURE).calls("plainSteps=3 plainAt(1,1)=0 plainSteps=3 fits=2 plainSteps=3");
         Edge.of(6, "NONE: 1 (no CORE).").refused("plainSteps!1");
     }
 
@@ -101,6 +105,7 @@ final class EdgePlain {
         Edge.of(7, "1 it TRAPS,").core(HEAD + ";div 1 0 0").calls("plainEnd=1").core(loop(2, 66, ";div 4 4 0")).calls("plainSteps=199 plainEnd=1 plainStep(199)=5");
         Edge.of(7, "2 behind 200 there is a STEP next.").core(loop(4, 66, "")).calls("plainEnd=2").core(loop(3, 66, ";set 1 1")).calls("plainSteps=200 plainEnd=2 plainStep(200)=6")
                 .core(loop(3, 66, ";div 4 4 0")).calls("plainSteps=200 plainEnd=2").core(HEAD + ";skip 0 0 0 yes").calls("plainEnd=2");
+        Edge.of(7, "1 it TRAPS,").core(UNSURE).calls("plainEnd=1 plainAt(1,0)=0 plainEnd=1 plainStep(1)=1 plainEnd=1 fits=2 plainEnd=1 plainAt(1,3)=0 plainEnd=1");
         Edge.of(7, "NONE: 1 (no CORE).").refused("plainEnd!1");
     }
 
@@ -108,6 +113,7 @@ final class EdgePlain {
         Edge e = Edge.of(8, "A register behind n of them (0 .. how many it does).").core(HEAD + ";set 0 3;set 7 4");
         e.calls("plainAt(0,0)=0 plainAt(0,1)=3 plainAt(7,1)=0 plainAt(7,2)=4 plainAt(7,3)!2").core(loop(3, 66, "")).calls("plainAt(1,200)=0 plainAt(1,199)=0 plainAt(1,198)=1 plainAt(1,0)=0 plainAt(1,1)=66 plainAt(1,201)!2");
         e.core(HEAD + ";div 1 0 0").calls("plainAt(1,0)=0 plainAt(1,1)!2");
+        Edge.of(8, "A register behind n of them (0 .. how many it does).").core(UNSURE).calls("plainAt(1,1)=0 plainAt(1,3)=0 plainAt(4,3)=0 plainAt(1,4)!2");
         Edge.of(8, "NONE: 1; 2.").refused("plainAt(0,0)!1 plainAt(8,999)!1").core(HEAD + ";set 1 5").refused("plainAt(8,0)!1 plainAt(-1,0)!1 plainAt(8,2)!1 plainAt(-2147483648,-1)!1 plainAt(2147483647,0)!1"
                 + " plainAt(0,-1)!2 plainAt(0,2)!2 plainAt(7,2147483647)!2 plainAt(7,-2147483648)!2").calls("plainAt(7,1)=0 trouble=0");
     }
@@ -116,6 +122,7 @@ final class EdgePlain {
         Edge.of(9, "Which STEP is the n-th it does, from 0;").core(HEAD + ";skip 0 0 2 no;set 1 1;set 2 2").calls("plainStep(0)=0 plainStep(1)=2").core(loop(3, 66, "")).calls("plainStep(199)=4");
         Edge.of(9, "behind the last one which would be next.").core(HEAD + ";skip 0 0 2 no;set 1 1;set 2 2").calls("plainStep(2)=3").core(HEAD + ";skip 0 0 24 yes").calls("plainStep(1)=24")
                 .core(HEAD + ";div 1 0 0").calls("plainStep(0)=0").core(loop(3, 66, "")).calls("plainStep(200)=6").core(HEAD + ";skip 0 0 0 yes").calls("plainStep(200)=0");
+        Edge.of(9, "Which STEP is the n-th it does, from 0;").core(UNSURE).calls("plainStep(0)=0 plainStep(1)=1 plainStep(2)=3 plainStep(3)=5 plainStep(4)!2");
         Edge.of(9, "NONE: 1 (no CORE); 2.").refused("plainStep(0)!1 plainStep(-1)!1").core(HEAD + ";set 1 5").refused("plainStep(-1)!2 plainStep(2)!2 plainStep(2147483647)!2 plainStep(-2147483648)!2")
                 .core(HEAD + ";div 1 0 0").refused("plainStep(1)!2").core(HEAD + ";skip 0 0 0 yes").refused("plainStep(201)!2").calls("plainStep(200)=0 trouble=0");
     }
@@ -125,6 +132,7 @@ final class EdgePlain {
         Edge.of(10, sentence).core(HEAD + ";set 1 5").calls("plainMisses=0").core(HEAD + ";skip 0 0 1 no").calls("plainMisses=0").core(HEAD + ";set 1 1;skip 0 1 2 yes").calls("plainMisses=0")
                 .core(HEAD + ";skip 0 0 0 no").calls("plainMisses=200").core(HEAD + ";skip 0 0 0 yes").calls("plainMisses=0").core(HEAD + ";set 1 1;skip 0 1 0 yes").calls("plainMisses=1")
                 .core(HEAD + ";skip 0 0 2 no").calls("plainMisses=1").core(HEAD + ";skip 0 0 2 yes;skip 0 0 0 no").calls("plainMisses=0").core(HEAD + ";div 1 0 0;skip 0 0 0 no").calls("plainMisses=0");
+        Edge.of(10, sentence).core(UNSURE).calls("plainMisses=1 plainAt(1,0)=0 plainMisses=1 plainStep(1)=1 plainMisses=1 fits=2 plainMisses=1");
         Edge.of(10, "NONE: 1 (no CORE).").refused("plainMisses!1");
     }
 }

@@ -18,6 +18,7 @@ final class EdgeText {
         whereIfByFour();
         blanks();
         words();
+        everyLetter();
         wholes();
         otherBytes();
         lines();
@@ -109,6 +110,9 @@ final class EdgeText {
                 .told("core cells 24 window 12 saves 4 share 4 early;move 1 0;set 2 2", 2)
                 .calls("trouble=0 fault=0 size(0)=24 size(1)=12 size(2)=4 size(3)=4 size(4)=1 size(5)=2 size(6)=0 size(7)=0 size(8)=0 size(10)=0"
                         + " entries=0 nextStep=0 kept(1)=1 value(1)=0 ready=255 free=16776960 letGo=0 cycles(9)=3 commits(9)=2 fits=1 fitAt(0)=0 judge=-2 agrees=1");
+        String all = SET + ";set 2 6;unsure 0 1;got 1 1";
+        Edge.of(3, "are the CORE from now on").core(all).told(all, 2).told(all, 2).calls("size(5)=2 size(6)=1 size(7)=1 fits=1 fitAt(0)=1 plainSteps=2")
+                .told(all + ";set 3 3;unsure 1 1;got 2 2;got 9", -1).told(SET, 1).calls("size(5)=1 size(6)=0 size(7)=0 fits=1 fitAt(0)=0 plainSteps=1").told(all, 2).calls("size(5)=2 size(6)=1 size(7)=1");
         Edge.of(3, "are the CORE from now on").core(HEAD + ";div 1 0 0").calls("fetch=0 run(0)=0 commit=-2 resume(0)=1 agrees=0")
                 .told(SET, 1).calls("agrees=1 size(10)=0 fetchable=0 resume(0)!5 fetch=0");
         Edge.of(3, "are the CORE from now on").core("core cells 9 window 4 saves 0 share 1 early;set 1 5;set 2 6").calls("fetch=0 fetch=1 entry(1,1)=1 letGo=6")
@@ -164,6 +168,21 @@ final class EdgeText {
                 .fails(1, "^a", "^abcdefgh", "^abcdefghi", "^corecells 9", "^Core", "^coRe", "core^S", "core ^Cells", "^COREcells", HEAD + "^R;set 1 5",
                         "core cells 9 window 2 saves 0 share 1 ^lateset 1 5", HEAD + ";^sets 1 5", HEAD + ";^se 1 5", HEAD + ";^s 1 5", HEAD + ";^setsetset 1 5",
                         HEAD + ";set 1 ^abcdefghi", HEAD + ";skip 0 0 1 ^y", HEAD + ";skip 0 0 1 ^yess", HEAD + ";skip 0 0 1 ^nono", HEAD + ";skip 0 0 1 ^n");
+    }
+
+    // Each letter of each WORD counts: another in its place makes a WORD with which no CORE goes on.
+    private static void everyLetter() {
+        String text = "core cells 9 window 2 saves 0 share 1 early;set 1 5;add 1 1 1;sub 1 1 1;div 1 1 1;move 1 1;skip 1 1 1 yes;skip 1 1 1 no;unsure 0 1;got 1 1";
+        Edge e = Edge.of("I", "TOKENS: WORDS of 1 to 8 small letters that stand together,").fine(7, text, text.replace("early", "late"));
+        int word = 0;
+        for (int k = 0; k < text.length(); k++) {
+            word = k > 0 && Character.isLetter(text.charAt(k - 1)) ? word : k;
+            if (Character.isLetter(text.charAt(k))) {
+                for (char other : new char[] {'z', 'q', Character.toUpperCase(text.charAt(k)), (char) (text.charAt(k) + 128)}) {
+                    e.fails(1, text.substring(0, word) + "^" + text.substring(word, k) + other + text.substring(k + 1));
+                }
+            }
+        }
     }
 
     private static void wholes() {
