@@ -28,10 +28,11 @@ final class Edge {
         String doc = Files.readString(file);
         String terms = between(doc, "## Terms", "The constants:");
         addParts(terms, "(?m)^(IV|III|II|I)\\. ");
+        add("use", between(doc, "An object is used", "; what later calls"));
         add("constants", between(doc, "The constants:", "Ahead of the calls"));
         String promises = between(doc, "## Promise 1:", "## Not promised");
         addParts(promises, "(?m)^## Promise (\\d+):[^`]*`[^`]*`:");
-        Check.due("the terms, the constants, the promises", SECTIONS.size(), 4 + 1 + 52);
+        Check.due("the terms, how it is used, the constants, the promises", SECTIONS.size(), 4 + 2 + 52);
     }
 
     private static String between(String doc, String from, String to) {
@@ -77,7 +78,7 @@ final class Edge {
 
     // ---- a sentence and its calls
 
-    /** A sentence of a section: I to IV, constants, or a promise's number. */
+    /** A sentence of a section: use, I to IV, constants, or a promise's number. */
     static Edge of(String section, String quote) {
         String body = SECTIONS.getOrDefault(section, "");
         int at = body.indexOf(quote);

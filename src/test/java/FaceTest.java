@@ -5,6 +5,7 @@ import java.lang.reflect.Modifier;
 import java.util.ArrayList;
 import java.util.Arrays;
 import java.util.List;
+import java.util.NoSuchElementException;
 import java.util.TreeSet;
 
 /** The class has the document's face and no more, and what a run makes keeps to its room. */
@@ -54,6 +55,8 @@ public final class FaceTest {
         for (Method m : RenamedCells.class.getDeclaredMethods()) {
             if (!Modifier.isPrivate(m.getModifiers())) {
                 Check.due("public: " + m, Modifier.isPublic(m.getModifiers()) && !Modifier.isStatic(m.getModifiers()), true);
+                boolean throwsOne = Arrays.equals(m.getExceptionTypes(), new Class<?>[] {NoSuchElementException.class});
+                Check.due("throws: " + m, m.getName().equals("led") ? throwsOne : m.getExceptionTypes().length == 0, true);
                 found.add(written(m));
                 names.add(m.getName());
             }
@@ -76,7 +79,10 @@ public final class FaceTest {
         }
     }
 
-    private static void fields() {
+    private static void fields() throws Exception {
+        Field none = RenamedCells.class.getDeclaredField("NONE");
+        int due = Modifier.PUBLIC | Modifier.STATIC | Modifier.FINAL;
+        Check.due("NONE is public, static, final, an int", none.getModifiers() == due && none.getType() == int.class, true);
         for (Field f : RenamedCells.class.getDeclaredFields()) {
             boolean isPrivate = Modifier.isPrivate(f.getModifiers());
             Check.due("private: " + f, isPrivate || f.getName().equals("NONE"), true);
