@@ -24,7 +24,12 @@ final class Edge {
 
     // ---- the document
 
+    /** Without the document the calls are tested all the same; only the quotes can't be compared. */
     static void readDocument(Path file) throws IOException {
+        if (!Files.exists(file)) {
+            System.out.println("no " + file + ": the quotes are not compared with it");
+            return;
+        }
         String doc = Files.readString(file);
         String terms = between(doc, "## Terms", "The constants:");
         addParts(terms, "(?m)^(IV|III|II|I)\\. ");
@@ -80,6 +85,9 @@ final class Edge {
 
     /** A sentence of a section: use, I to IV, constants, or a promise's number. */
     static Edge of(String section, String quote) {
+        if (SECTIONS.isEmpty()) {
+            return new Edge(section + ": " + quote);
+        }
         String body = SECTIONS.getOrDefault(section, "");
         int at = body.indexOf(quote);
         Check.due("the document has, in " + section + ": " + quote, at >= 0, true);
