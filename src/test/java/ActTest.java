@@ -76,6 +76,7 @@ public final class ActTest {
         RenamedCells x = Check.of(LATE + ";set 1 5;set 2 6;set 3 7");
         Check.script("led", x, "led(0)=throws fetch=0 fetch=1 fetch=2 led(0)=throws run(2)=0 led(0)=2 led(1)=throws run(0)=0 led(0)=0 led(1)=2 led(2)=throws"
                 + " led(-1)=throws led(2147483647)=throws led(-2147483648)=throws commit=0 led(0)=1 led(1)=throws");
+        Check.script("led leaves TROUBLE", x, "undo=1 led(0)=0 trouble=0 led(2)=throws trouble=0 core(-1)!2 led(0)=0 trouble=2 led(2)=throws trouble=2");
     }
 
     private static void sizes() {
@@ -97,9 +98,10 @@ public final class ActTest {
             "crowd(9)=9", "cellsFor(3)=9", "rate(9,0)=1", "fits=1", "fitAt(0)=0", "could=0", "surely=0", "ask=-2", "askLeaves=-2",
             "judge=-2", "drawnCommits(0,0)=0", "drawnValue(0,0,0)=0", "image=0", "back(0)=1"
         };
-        Check.script("an entry", x, "fetch=0");
+        Check.script("an entry", x, "undo!6 fetch=0 trouble=0");
         for (String call : fine) {
             Check.script("not refused", x, "core(-1)!2 " + call + " trouble=0");
         }
+        Check.script("acts not refused", x, "core(-1)!2 run(0)=0 trouble=0 core(-1)!2 undo=1 trouble=0 run(0)=0 core(-1)!2 commit=0 trouble=0");
     }
 }

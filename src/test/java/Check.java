@@ -78,6 +78,35 @@ final class Check {
         }
     }
 
+    /** What can be seen of an object, but for TROUBLE. */
+    static String seen(RenamedCells x) {
+        StringBuilder s = new StringBuilder();
+        s.append("fault ").append(x.fault()).append(" sizes");
+        for (int what = 0; what <= 13; what++) {
+            s.append(' ').append(x.size(what));
+        }
+        if (x.size(0) == 0) {
+            return s.toString();
+        }
+        s.append(" now ").append(x.nextStep()).append(' ').append(x.letGo()).append(' ').append(x.free());
+        s.append(' ').append(x.ready()).append(' ').append(x.agrees()).append(" registers");
+        for (int r = 0; r < 8; r++) {
+            s.append(' ').append(x.kept(r)).append(':').append(x.mapped(r)).append(':').append(x.value(r));
+        }
+        s.append(" cells");
+        for (int c = 0; c < x.size(0); c++) {
+            s.append(' ').append(x.cell(c, 0));
+        }
+        for (int i = 0; i < x.entries(); i++) {
+            s.append(" entry");
+            for (int what = 0; what <= 8; what++) {
+                s.append(' ').append(x.entry(i, what));
+            }
+        }
+        s.append(" text ").append(x.plainSteps()).append(' ').append(x.plainEnd()).append(' ').append(x.fits());
+        return s.toString();
+    }
+
     /**
      * Calls in a row, parted by blanks, each written call(numbers)=answer, or call=answer without
      * numbers; true is 1, false 0, and led's exception is written throws. A call!n is refused by n.
@@ -99,7 +128,7 @@ final class Check {
         }
     }
 
-    private static int[] numbers(String call) {
+    static int[] numbers(String call) {
         int[] a = new int[5];
         int open = call.indexOf('(');
         if (open >= 0) {

@@ -141,10 +141,10 @@ final class Edge {
     /** Calls that are refused (fetch!3) and leave all as it is. */
     Edge refused(String script) {
         for (String row : script.trim().split("\\s+")) {
-            String before = seen(x);
+            String before = Check.seen(x);
             Check.due(name + ": " + row + " tells of a refusal", row.indexOf('!') >= 0, true);
             Check.script(name, x, row);
-            String after = seen(x);
+            String after = Check.seen(x);
             Check.due(name + ": " + row + " leaves " + before + " as " + after, before.equals(after), true);
         }
         return this;
@@ -174,34 +174,5 @@ final class Edge {
             Check.due(row + " where", y.where(), -1);
         }
         return this;
-    }
-
-    /** What can be seen of an object, but for TROUBLE. */
-    private static String seen(RenamedCells x) {
-        StringBuilder s = new StringBuilder();
-        s.append("fault ").append(x.fault()).append(" sizes");
-        for (int what = 0; what <= 13; what++) {
-            s.append(' ').append(x.size(what));
-        }
-        if (x.size(0) == 0) {
-            return s.toString();
-        }
-        s.append(" text ").append(x.plainSteps()).append(' ').append(x.plainEnd()).append(' ').append(x.fits());
-        s.append(" now ").append(x.nextStep()).append(' ').append(x.letGo()).append(' ').append(x.free());
-        s.append(' ').append(x.ready()).append(' ').append(x.agrees()).append(" registers");
-        for (int r = 0; r < 8; r++) {
-            s.append(' ').append(x.kept(r)).append(':').append(x.mapped(r)).append(':').append(x.value(r));
-        }
-        s.append(" cells");
-        for (int c = 0; c < x.size(0); c++) {
-            s.append(' ').append(x.cell(c, 0));
-        }
-        for (int i = 0; i < x.entries(); i++) {
-            s.append(" entry");
-            for (int what = 0; what <= 8; what++) {
-                s.append(' ').append(x.entry(i, what));
-            }
-        }
-        return s.toString();
     }
 }

@@ -72,6 +72,11 @@ final class EdgeAct {
                         + " feed(1,1,1,1,1)=20 trouble=6 entries!1 trouble=1 feed(1,1,1,1,1)=40 trouble=1 core(41)!2 trouble=2")
                 .fed(EdgeText.times(43, "                    "))
                 .calls("size(13)=900 feed(1,1,1,1,1)=-1 trouble=2 core(40)!4 trouble=4 feed(1,1,1,1,1)=20 trouble=4");
+        Edge.of("IV", "TROUBLE of the latest call that may be refused (those of which a number is told here):")
+                .core(LATE + ";set 1 5;set 2 6").calls("fetch=0 run(0)=0 undo=1 run(0)=0 core(-1)!2 led(0)=0 trouble=2 led(1)=throws"
+                        + " trouble=2 size(0)=12 size(14)=-1 size(-1)=-1 trouble=2 fault=0 where=-1 trouble=2 feed(1,1,1,1,1)=20 trouble=2"
+                        + " core(1)!4 fault=1 where=0 led(0)=0 where=0 size(13)=0 trouble=4 led(1)=throws where=0 feed(1,1,1,1,1)=20"
+                        + " where=0 trouble=4 entries=1 trouble=0 where=-1 fault=1 led(0)=0 led(1)=throws size(14)=-1 trouble=0");
         String[] fine = {
             "plainSteps=1", "plainEnd=0", "plainAt(0,0)=0", "plainStep(0)=0", "plainMisses=0", "value(0)=0", "kept(0)=0",
             "mapped(0)=0", "letGo=0", "cell(0,0)=0", "free=3584", "ready=255",

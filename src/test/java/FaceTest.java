@@ -2,11 +2,15 @@ import java.lang.reflect.Constructor;
 import java.lang.reflect.Field;
 import java.lang.reflect.Method;
 import java.lang.reflect.Modifier;
+import java.nio.file.Files;
+import java.nio.file.Path;
 import java.util.ArrayList;
 import java.util.Arrays;
 import java.util.List;
 import java.util.NoSuchElementException;
 import java.util.TreeSet;
+import java.util.regex.Matcher;
+import java.util.regex.Pattern;
 
 /** The class has the document's face and no more, and what a run makes keeps to its room. */
 public final class FaceTest {
@@ -28,6 +32,7 @@ public final class FaceTest {
         Check.due("NONE", RenamedCells.NONE, -1);
         int modifiers = RenamedCells.class.getModifiers();
         Check.due("public and final", Modifier.isPublic(modifiers) && Modifier.isFinal(modifiers), true);
+        asTheDocumentHasIt();
         methods();
         fields();
         Constructor<?>[] made = RenamedCells.class.getDeclaredConstructors();
@@ -47,6 +52,22 @@ public final class FaceTest {
             types.add(p.getSimpleName());
         }
         return m.getName() + "(" + String.join(",", types) + ")" + m.getReturnType().getSimpleName();
+    }
+
+    /** The face above is the one of the document's page, if that is there. */
+    private static void asTheDocumentHasIt() throws Exception {
+        Path page = Path.of(System.getProperty("shared", "../shared"), "DOC.md");
+        if (!Files.exists(page)) {
+            System.out.println("no " + page + ": the face is not compared with it");
+            return;
+        }
+        TreeSet<String> told = new TreeSet<>();
+        Matcher m = Pattern.compile("(?m)^    public (\\w+) (\\w+)\\(([^)]*)\\)( throws NoSuchElementException)?;").matcher(Files.readString(page));
+        while (m.find()) {
+            told.add(m.group(2) + "(" + m.group(3).replaceAll(" \\w+(,|$)", "$1").replace(", ", ",") + ")" + m.group(1));
+            Check.due("throws: " + m.group(2), m.group(4) != null, m.group(2).equals("led"));
+        }
+        Check.due("the document's face: " + told, told.equals(new TreeSet<>(Arrays.asList(FACE))), true);
     }
 
     private static void methods() {
@@ -86,9 +107,21 @@ public final class FaceTest {
         for (Field f : RenamedCells.class.getDeclaredFields()) {
             boolean isPrivate = Modifier.isPrivate(f.getModifiers());
             Check.due("private: " + f, isPrivate || f.getName().equals("NONE"), true);
+        }
+        notTooMany(RenamedCells.class);
+        for (Class<?> inside : RenamedCells.class.getDeclaredClasses()) {
+            notTooMany(inside);
+        }
+    }
+
+    private static void notTooMany(Class<?> of) {
+        int count = 0;
+        for (Field f : of.getDeclaredFields()) {
             boolean isStatic = Modifier.isStatic(f.getModifiers());
             Check.due("final: " + f, !isStatic || Modifier.isFinal(f.getModifiers()), true);
+            count += isStatic ? 0 : 1;
         }
+        Check.due(of.getSimpleName() + " has " + count + " fields", count <= 20, true);
     }
 
     private static final String DEAR =

@@ -1,6 +1,10 @@
 import java.nio.file.Files;
 import java.nio.file.Path;
 import java.util.List;
+import java.util.Map;
+import java.util.Set;
+import java.util.TreeMap;
+import java.util.TreeSet;
 import java.util.regex.Matcher;
 import java.util.regex.Pattern;
 
@@ -36,6 +40,12 @@ public final class LanguageTest {
         }
         Check.due("throws", throwsFound, 1);
         methodLengths(lines);
+        Map<String, Set<String>> calls = callsOf(withoutTexts(String.join("\n", lines)));
+        Check.due("methods found: " + calls.keySet(), calls.containsKey("trouble") && calls.containsKey("bestQuestion"), true);
+        for (String name : calls.keySet()) {
+            int depth = depthOf(name, calls, 1);
+            Check.due("calls at most eight deep: " + name + " " + depth, depth <= 8, true);
+        }
         Check.end("LanguageTest");
     }
 
@@ -43,12 +53,45 @@ public final class LanguageTest {
         return code.replaceAll("(?s)/\\*.*?\\*/", "").replaceAll("//[^\n]*", "").replaceAll("\"[^\"\n]*\"", "\"\"");
     }
 
+    private static boolean opensMethod(String line) {
+        return line.matches(" {4}( {4})?\\S.*\\) (throws \\w+ )?\\{") && !line.matches("\\s+(if|for|while|switch|\\}).*");
+    }
+
+    /** Which names each method calls; methods of one name in several classes count as one. */
+    private static Map<String, Set<String>> callsOf(String code) {
+        Map<String, Set<String>> calls = new TreeMap<>();
+        String within = "";
+        for (String line : code.split("\n")) {
+            if (opensMethod(line)) {
+                within = line.replaceAll("\\(.*", "").replaceAll(".*\\W", "");
+                calls.putIfAbsent(within, new TreeSet<>());
+                continue;
+            }
+            Matcher m = Pattern.compile("\\b(\\w+)\\(").matcher(line);
+            while (m.find() && !within.isEmpty()) {
+                calls.get(within).add(m.group(1));
+            }
+        }
+        return calls;
+    }
+
+    /** How many of the class's own methods stand open at once; a method that comes back to itself is too deep. */
+    private static int depthOf(String name, Map<String, Set<String>> calls, int level) {
+        int deepest = 1;
+        for (String called : calls.get(name)) {
+            if (calls.containsKey(called)) {
+                deepest = Math.max(deepest, level > 20 ? 99 : 1 + depthOf(called, calls, level + 1));
+            }
+        }
+        return deepest;
+    }
+
     private static void methodLengths(List<String> lines) {
         int classes = 0;
         for (int k = 0; k < lines.size(); k++) {
             String line = lines.get(k);
             classes += line.matches(".*\\bclass \\w+ \\{") ? 1 : 0;
-            if (!line.matches(" {4}( {4})?\\S.*\\) (throws \\w+ )?\\{") || line.matches("\\s+(if|for|while|switch|\\}).*")) {
+            if (!opensMethod(line)) {
                 continue;
             }
             String indent = line.replaceAll("\\S.*", "");
